@@ -1,0 +1,160 @@
+/** What the tests share: counting wrong answers, putting bytes and names on the tape, reading names back. */
+final class Kit {
+    static final int NOTHING = 0;
+    static final int STATE = 1;
+    static final int INDEX = 2;
+    static final int ARGUMENT = 3;
+    static final int ROOM = 4;
+    static final int OTHER = 5;
+
+    private static int wrong = 0;
+
+    /** A call that may throw. */
+    interface Call {
+        void run();
+    }
+
+    static void due(String what, long got, long want) {
+        if (got != want) {
+            wrong++;
+            System.out.println(what + ": got " + got + ", due is " + want);
+        }
+    }
+
+    static void due(String what, String got, String want) {
+        if (!got.equals(want)) {
+            wrong++;
+            System.out.println(what + ": got \"" + got + "\", due is \"" + want + "\"");
+        }
+    }
+
+    static void holds(String what, boolean condition) {
+        if (!condition) {
+            wrong++;
+            System.out.println(what + ": does not hold");
+        }
+    }
+
+    static void end() {
+        if (wrong != 0) {
+            System.out.println(wrong + " answers are not as due");
+            System.exit(1);
+        }
+    }
+
+    /** Which exception a call throws; only the very class that the document names counts. */
+    static int thrown(Call call) {
+        try {
+            call.run();
+            return NOTHING;
+        } catch (RuntimeException e) {
+            Class<?> kind = e.getClass();
+            return kind == IllegalStateException.class ? STATE
+                    : kind == IndexOutOfBoundsException.class ? INDEX
+                    : kind == IllegalArgumentException.class ? ARGUMENT
+                    : kind == UnsupportedOperationException.class ? ROOM : OTHER;
+        }
+    }
+
+    static void throwsDue(String what, Call call, int want) {
+        due(what + " throws", thrown(call), want);
+    }
+
+    /** Puts bytes on the tape behind those that are there. */
+    static void tape(TableVolumes x, byte[] bytes) {
+        for (int from = 0; from < bytes.length; from += 20) {
+            int n = Math.min(20, bytes.length - from);
+            int[] words = new int[5];
+            for (int i = 0; i < n; i++) {
+                words[i / 4] |= (bytes[from + i] & 255) << (24 - 8 * (i % 4));
+            }
+            x.feed(words[0], words[1], words[2], words[3], words[4]);
+            x.end(n);
+        }
+    }
+
+    static void tape(TableVolumes x, String latin) {
+        byte[] bytes = new byte[latin.length()];
+        for (int i = 0; i < bytes.length; i++) {
+            bytes[i] = (byte) latin.charAt(i);
+        }
+        tape(x, bytes);
+    }
+
+    static byte[] unitBytes(String name) {
+        byte[] bytes = new byte[2 * name.length()];
+        for (int i = 0; i < name.length(); i++) {
+            bytes[2 * i] = (byte) (name.charAt(i) >> 8);
+            bytes[2 * i + 1] = (byte) name.charAt(i);
+        }
+        return bytes;
+    }
+
+    static int tapeLength(TableVolumes x) {
+        return x.end(0);
+    }
+
+    static int makeFile(TableVolumes x, String name) {
+        tape(x, unitBytes(name));
+        return x.make(false);
+    }
+
+    static int makeDirectory(TableVolumes x, String name) {
+        tape(x, unitBytes(name));
+        return x.make(true);
+    }
+
+    static int makeThrows(TableVolumes x, String name, boolean directory) {
+        tape(x, unitBytes(name));
+        return thrown(() -> x.make(directory));
+    }
+
+    static int writeText(TableVolumes x, int k, String text) {
+        tape(x, text);
+        return x.write(k);
+    }
+
+    static String nameOf(TableVolumes x, int k) {
+        java.io.ByteArrayOutputStream bytes = new java.io.ByteArrayOutputStream();
+        for (int i = 0; x.letter(k, i) != TableVolumes.NONE; i++) {
+            bytes.write(x.letter(k, i));
+        }
+        return new String(bytes.toByteArray(), java.nio.charset.StandardCharsets.UTF_8);
+    }
+
+    /** A number on the disk, lowest byte first. */
+    static long number(TableVolumes x, int sector, int at, int n) {
+        long value = 0;
+        for (int i = n - 1; i >= 0; i--) {
+            value = value << 8 | x.byteAt(sector, at + i);
+        }
+        return value;
+    }
+
+    static void poke(TableVolumes x, int sector, int at, int n, long value) {
+        for (int i = 0; i < n; i++) {
+            x.poke(sector, at + i, (int) (value >> (8 * i)));
+        }
+    }
+
+    /** Bytes of a slot of a directory's cluster that begins at a sector, as characters. */
+    static String text(TableVolumes x, int sector, int at, int n) {
+        StringBuilder text = new StringBuilder();
+        for (int i = 0; i < n; i++) {
+            text.append((char) x.byteAt(sector + (at + i) / 512, (at + i) % 512));
+        }
+        return text.toString();
+    }
+
+    /** All bytes that byteAt shows, NONE where it shows none. */
+    static int[] image(TableVolumes x, int sectors) {
+        int[] image = new int[sectors * 512];
+        for (int i = 0; i < image.length; i++) {
+            image[i] = x.byteAt(i / 512, i % 512);
+        }
+        return image;
+    }
+
+    private Kit() {
+    }
+}
