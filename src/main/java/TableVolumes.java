@@ -1336,33 +1336,29 @@ public final class TableVolumes {
                 int at = directory.slotAddress(slot);
                 int mark = disk.one(at);
                 int bits = disk.one(at + 11);
-                if (mark == 0) {
+                if (mark == 0 || mark == EMPTY_SLOT && parts > 0) {
                     break;
                 }
-                if (mark != EMPTY_SLOT && (bits & 63) == PART) {
+                if (mark == EMPTY_SLOT) {
+                    continue;
+                }
+                if ((bits & 63) == PART) {
                     parts++;
                     continue;
                 }
-                if (mark == EMPTY_SLOT) {
-                    if (parts > 0) {
-                        return 4;
-                    }
-                    continue;
-                }
-                boolean label = (bits & LABEL) != 0;
-                labels += label ? 1 : 0;
-                if (!entryAsTold(at, bits) || label && !(root && labels == 1 && parts == 0)) {
-                    return 4;
-                }
-                int fault = label ? 0 : itemFault(slot, at, parts);
+                labels += (bits & LABEL) != 0 ? 1 : 0;
+                int fault = timesAsTold(at) ? entryFault(slot, at, parts, root && labels < 2) : 4;
                 if (fault != 0) {
                     return fault;
                 }
-                if (!label && (bits & DIRECTORY) != 0) {
+                if ((bits & DIRECTORY) != 0) {
                     enqueue(disk.firstCluster(at), root ? 0 : first);
+                } else if (!fileChainAsTold(at)) {
+                    return 3;
                 }
                 parts = 0;
             }
+            // parts that are left have no entry directly behind them
             return parts > 0 ? 4 : 0;
         }
 
@@ -1376,26 +1372,19 @@ public final class TableVolumes {
             return disk.one(at + 11) == DIRECTORY && disk.firstCluster(at) == cluster;
         }
 
-        /** All that one slot alone tells. */
-        private boolean entryAsTold(int at, int bits) {
+        /** All of an entry but its times and its chain; 4 and 5 alone come of it. */
+        private int entryFault(int slot, int at, int parts, boolean mayBeLabel) {
+            int bits = disk.one(at + 11);
             boolean label = (bits & LABEL) != 0;
-            boolean folder = (bits & DIRECTORY) != 0;
             shortName.load(disk, at);
-            if (bits > 63 || label && folder || !shortName.asTold(label)) {
-                return false;
+            if (bits > 63 || !shortName.asTold(label)) {
+                return 4;
             }
-            if ((label || folder) && disk.four(at + 28) != 0 || label && disk.firstCluster(at) != 0) {
-                return false;
+            if (label) {
+                boolean bare = (bits & DIRECTORY) == 0 && disk.firstCluster(at) == 0 && disk.four(at + 28) == 0;
+                return mayBeLabel && parts == 0 && bare ? 0 : 4;
             }
-            int read = disk.two(at + 18);
-            return Days.madeAsTold(disk.two(at + 16), disk.two(at + 14), disk.one(at + 13))
-                    && (read == 0 || Days.dayAsTold(read))
-                    && Days.dayAsTold(disk.two(at + 24)) && Days.timeAsTold(disk.two(at + 22));
-        }
-
-        /** Of an entry that is no label and that entryAsTold found as told just before. */
-        private int itemFault(int slot, int at, int parts) {
-            if (!partsAsTold(slot, parts)) {
+            if ((bits & DIRECTORY) != 0 && disk.four(at + 28) != 0 || !partsAsTold(slot, parts)) {
                 return 4;
             }
             name.read(directory, slot, parts);
@@ -1403,20 +1392,35 @@ public final class TableVolumes {
                 return 4;
             }
             int hash = name.hash();
+            if (isTwin(at, hash)) {
+                return 5;
+            }
+            directory.add(slot, parts, hash);
+            return 0;
+        }
+
+        private boolean timesAsTold(int at) {
+            int read = disk.two(at + 18);
+            return Days.madeAsTold(disk.two(at + 16), disk.two(at + 14), disk.one(at + 13))
+                    && (read == 0 || Days.dayAsTold(read))
+                    && Days.dayAsTold(disk.two(at + 24)) && Days.timeAsTold(disk.two(at + 22));
+        }
+
+        /** Whether an entry before has the short name, or a name like the one that was read last. */
+        private boolean isTwin(int at, int hash) {
             for (int i = 0; i < directory.count; i++) {
                 int earlier = directory.slotOf(i);
                 if (disk.sameShortName(at, directory.slotAddress(earlier))) {
-                    return 5;
+                    return true;
                 }
                 if (directory.hashOf(i) == hash) {
                     earlierName.read(directory, earlier, directory.partsOf(i));
                     if (name.isAlike(earlierName)) {
-                        return 5;
+                        return true;
                     }
                 }
             }
-            directory.add(slot, parts, hash);
-            return (disk.one(at + 11) & DIRECTORY) != 0 || fileChainAsTold(at) ? 0 : 3;
+            return false;
         }
 
         private boolean partsAsTold(int slot, int parts) {
