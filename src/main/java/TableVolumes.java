@@ -201,15 +201,7 @@ public final class TableVolumes {
             UnsupportedOperationException {
         int bytes = tape.take();
         openHere();
-        int at = fileAt(k);
-        int size = disk.four(at + 28);
-        makeRoom(at, bytes);
-        FileEnd end = new FileEnd(volume, at);
-        for (int i = 0; i < bytes; i++) {
-            end.append(tape.at(i));
-        }
-        disk.putFour(at + 28, size + bytes);
-        return size + bytes;
+        return lengthenFile(fileAt(k), bytes, true, 0);
     }
 
     public int grow(int k, int n, int seed) throws IllegalStateException, IndexOutOfBoundsException,
@@ -219,14 +211,7 @@ public final class TableVolumes {
         if (n < 0 || n > MOST_GROWTH) {
             throw new IllegalArgumentException("no such growth");
         }
-        int size = disk.four(at + 28);
-        makeRoom(at, n);
-        FileEnd end = new FileEnd(volume, at);
-        for (int i = 0; i < n; i++) {
-            end.append(seed + i * i + (i >> 8));
-        }
-        disk.putFour(at + 28, size + n);
-        return size + n;
+        return lengthenFile(at, n, false, seed);
     }
 
     public int cut(int k, int size) throws IllegalStateException, IndexOutOfBoundsException, IllegalArgumentException {
@@ -415,6 +400,17 @@ public final class TableVolumes {
         if (behind >= here.looked && behind < here.slots) {
             disk.putOne(here.slotAddress(behind), 0);
         }
+    }
+
+    private int lengthenFile(int at, int n, boolean taped, int seed) {
+        int size = disk.four(at + 28);
+        makeRoom(at, n);
+        FileEnd end = new FileEnd(volume, at);
+        for (int i = 0; i < n; i++) {
+            end.append(taped ? tape.at(i) : seed + i * i + (i >> 8));
+        }
+        disk.putFour(at + 28, size + n);
+        return size + n;
     }
 
     private void makeRoom(int at, int bytes) {

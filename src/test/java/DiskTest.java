@@ -93,6 +93,12 @@ public final class DiskTest {
         Kit.due("no cluster has it", x.free(), 120);
         x.poke(8, 0, 0);
         Kit.due("entries 0 and 1 are no clusters", x.free(), 120);
+        Kit.poke(x, 8, 4, 4, 0);
+        Kit.due("nor if entry 1 is 0", x.free(), 120);
+        Kit.poke(x, 8, 8, 4, 0);
+        Kit.due("the root's cluster, free", x.free(), 121);
+        Kit.due("it is not shown then", x.byteAt(10, 0), TableVolumes.NONE);
+        Kit.due("the sector before it is", x.byteAt(9, 0), 248);
         x.poke(0, 44, 0);
         Kit.due("the root is no cluster", x.free(), TableVolumes.NONE);
     }

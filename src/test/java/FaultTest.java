@@ -157,9 +157,31 @@ public final class FaultTest {
         for (int begin : new int[] {0, 1, 2, 4, 5, 50, 125, 200}) {
             slot(x, 2, 26, begin, 3);
         }
+        longestChain();
         slot(x, 2, 27, 1, 3);
         slot(x, 2, 20, 1, 3);
         slot(x, 2, 21, 128, 3);
+    }
+
+    /** The root may have all clusters; its slots are looked at to the last one. */
+    private static void longestChain() {
+        TableVolumes x = new TableVolumes(256);
+        x.format(2, 8, 2, 0);
+        for (int c = 2; c < 124; c++) {
+            linkBoth(x, c, c + 1);
+        }
+        linkBoth(x, 124, 268435455);
+        Kit.due("all clusters", x.fault(), 0);
+        Kit.due("free", x.free(), 0);
+        for (int slot = 0; slot < 123 * 32 - 1; slot++) {
+            x.poke(10 + slot / 16, slot % 16 * 32, 229);
+        }
+        Kit.due("empty slots", x.fault(), 0);
+        x.poke(255, 480, 'a');
+        Kit.due("the last slot", x.fault(), 4);
+        x.poke(255, 480, 229);
+        linkBoth(x, 124, 2);
+        Kit.due("a ring", x.fault(), 3);
     }
 
     private static void entries() {
@@ -553,6 +575,7 @@ public final class FaultTest {
         linked(x, 7, 8, 6);
         linked(x, 7, 7, 6);
         linked(x, 7, 4, 6);
+        linked(x, 2, 268435455, 0);
         slot(x, 2, 0, 229, 6);
         slot(x, 1, 0, 0, 6);
     }

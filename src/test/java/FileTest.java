@@ -12,6 +12,7 @@ public final class FileTest {
         cut();
         cutTables();
         cutRefused();
+        neighbours();
         Kit.end();
     }
 
@@ -198,6 +199,30 @@ public final class FileTest {
         Kit.throwsDue("cut a directory", () -> x.cut(1, 0), Kit.ARGUMENT);
         Kit.due("size", x.about(0, 5), 3000);
         Kit.due("free", x.free(), 118);
+    }
+
+    /** What stands beside the bytes that change. */
+    private static void neighbours() {
+        TableVolumes x = made();
+        x.stamp(0, 0, 0x7D9F, 0x5DBD);
+        x.stamp(0, 1, 0xFF9F, 0);
+        x.stamp(0, 2, 0x7D9F, 0x5DBD);
+        x.stamp(0, 3, 0, 77);
+        x.poke(ROOT, 12, 0xAB);
+        String before = Kit.text(x, ROOT, 0, 26);
+        x.grow(0, 1024, 5);
+        Kit.due("an entry that gets its first cluster", Kit.text(x, ROOT, 0, 26), before);
+        Kit.due("first cluster", Kit.number(x, ROOT, 26, 2), 4);
+        String full = Kit.text(x, 14, 0, 1024);
+        Kit.makeDirectory(x, "E");
+        Kit.makeFile(x, "G");
+        x.grow(3, 3000, 1);
+        Kit.due("a full cluster before those that are taken", Kit.text(x, 14, 0, 1024), full);
+        x.cut(0, 0);
+        Kit.due("an entry that loses it", Kit.text(x, ROOT, 0, 26), before);
+        Kit.due("no cluster and no size", Kit.number(x, ROOT, 26, 6), 0);
+        Kit.due("the next entry", Kit.text(x, ROOT, 32, 11), "D          ");
+        sound(x);
     }
 
     private FileTest() {

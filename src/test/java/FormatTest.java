@@ -107,6 +107,8 @@ public final class FormatTest {
         for (String label : bad) {
             Kit.tape(x, label);
             Kit.throwsDue("format with label " + label, () -> x.format(2, 8, 2, 0), Kit.ARGUMENT);
+            Kit.due("what was refused is used up", x.format(2, 8, 2, 0), 123);
+            Kit.due("no label then", x.byteAt(10, 0), 0);
         }
     }
 

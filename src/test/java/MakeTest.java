@@ -15,6 +15,7 @@ public final class MakeTest {
         stale();
         addedClusters();
         noRoom();
+        otherRoot();
         Kit.end();
     }
 
@@ -158,10 +159,15 @@ public final class MakeTest {
         Kit.due("behind a plain name", Kit.text(y, ROOT, 64, 11), "AB~2       ");
         Kit.makeFile(y, "ab.c");
         Kit.due("another extension", Kit.text(y, ROOT, 128, 11), "AB~1    C  ");
+        Kit.makeFile(y, "ab.cde");
+        Kit.makeFile(y, "ab.cdf");
+        Kit.due("another extension by its last letter", Kit.text(y, ROOT, 32 * 8, 11), "AB~1    CDF");
+        Kit.makeFile(y, "ab.cdfg");
+        Kit.due("the same extension", Kit.text(y, ROOT, 32 * 10, 11), "AB~2    CDF");
         Kit.makeFile(y, "abcdef 1");
         Kit.makeFile(y, "ABCDEF~2");
         Kit.makeFile(y, "abcdef 3");
-        Kit.due("a number that is taken", Kit.text(y, ROOT, 32 * 9, 11), "ABCDEF~3   ");
+        Kit.due("a number that is taken", Kit.text(y, ROOT, 32 * 15, 11), "ABCDEF~3   ");
         // a label is no item: its short name may be there again
         TableVolumes z = new TableVolumes(256);
         Kit.tape(z, "AB~1");
@@ -351,6 +357,36 @@ public final class MakeTest {
         }
         Kit.due("two slots", Kit.makeThrows(y, "two", false), Kit.ROOM);
         Kit.due("one slot", Kit.makeFile(y, "ONE"), 127);
+    }
+
+    /** A root that is not cluster 2, which is taken as any other one. */
+    private static void otherRoot() {
+        TableVolumes x = made();
+        link(x, 5, 268435455);
+        link(x, 2, 0);
+        x.poke(0, 44, 5);
+        Kit.due("fault", x.fault(), 0);
+        Kit.makeDirectory(x, "D");
+        Kit.due("its slot", Kit.text(x, 16, 0, 11), "D          ");
+        Kit.due("its cluster", x.byteAt(16, 26), 2);
+        Kit.due("\".\"", Kit.number(x, 10, 26, 2), 2);
+        Kit.due("\"..\"", Kit.number(x, 10, 32 + 26, 2), 0);
+        Kit.due("enter", x.enter(0), 0);
+        Kit.makeDirectory(x, "E");
+        Kit.due("\"..\"", Kit.number(x, 12, 32 + 26, 2), 2);
+        Kit.due("enter", x.enter(0), 0);
+        Kit.holds("up", x.up());
+        Kit.holds("up", x.up());
+        Kit.holds("up", !x.up());
+        x.poke(7, 0, 0);
+        Kit.due("fault", x.fault(), 0);
+        x.poke(16, 0, 229);
+        Kit.due("cluster 2 in no chain", x.fault(), 6);
+    }
+
+    private static void link(TableVolumes x, int cluster, long value) {
+        Kit.poke(x, 8, 4 * cluster, 4, value);
+        Kit.poke(x, 9, 4 * cluster, 4, value);
     }
 
     private MakeTest() {

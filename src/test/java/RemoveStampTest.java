@@ -160,6 +160,10 @@ public final class RemoveStampTest {
         for (int time : new int[] {-1, 200, 256, Integer.MIN_VALUE, Integer.MAX_VALUE}) {
             Kit.throwsDue("hundredths " + time, () -> x.stamp(0, 3, 0, time), Kit.ARGUMENT);
         }
+        x.stamp(0, 0, 127 * 512 + 12 * 32 + 31, 23 * 2048 + 59 * 32 + 29);
+        x.stamp(0, 3, 0, 3);
+        Kit.due("hundredths behind a late time", x.byteAt(ROOT, 13), 3);
+        x.stamp(0, 0, 33, 0);
         x.stamp(0, 3, 99999, 199);
         Kit.due("hundredths", x.byteAt(ROOT, 13), 199);
         Kit.due("their neighbours", x.byteAt(ROOT, 12) + x.byteAt(ROOT, 14), 0);

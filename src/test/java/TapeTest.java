@@ -44,6 +44,14 @@ public final class TapeTest {
             Kit.due("ready byte " + i, x.content(0, i), want[i]);
         }
         x.feed(-1, -1, -1, -1, -1);
+        x.end(0);
+        x.end(20);
+        x.write(0);
+        for (int i = 0; i < 20; i++) {
+            Kit.due("ready byte " + i + ", 0 again", x.content(0, 11 + i), 0);
+        }
+        x.cut(0, 11);
+        x.feed(-1, -1, -1, -1, -1);
         x.clear();
         Kit.due("clear leaves the ready bytes", x.end(1), 1);
         x.write(0);
