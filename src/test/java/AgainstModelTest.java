@@ -12,38 +12,46 @@ public final class AgainstModelTest {
     };
     private static final int[] SPECIAL = {0, 1, 2, 5, 8, 15, 16, 32, 46, 63, 64, 65, 66, 127, 128, 229, 248, 255};
 
+    /** A run stops here; a last step may go somewhat further, and calls are left to look with. */
+    private static final int CHANGES = 290;
+
     private final Random random;
-    private final TableVolumes x;
+    private final Run x;
     private final Model m;
     private final String run;
+    private byte[] compared;
 
     private AgainstModelTest(long seed) {
         random = new Random(seed);
         int sectors = random.nextInt(3) == 0 ? 200 + random.nextInt(900) : 256 + random.nextInt(20);
-        x = new TableVolumes(sectors);
+        x = new Run(sectors);
         m = new Model(sectors);
+        compared = m.disk.clone();
         run = "run " + seed;
     }
 
     public static void main(String[] args) {
-        int runs = args.length > 0 ? Integer.parseInt(args[0]) : 60;
+        int runs = args.length > 0 ? Integer.parseInt(args[0]) : 300;
         for (int seed = 0; seed < runs; seed++) {
-            new AgainstModelTest(seed).go();
+            new AgainstModelTest(seed).go(seed % 15 == 0);
         }
         Kit.end();
     }
 
-    private void go() {
+    private void go(boolean wholeDisk) {
         for (int i = 0; i < 20 && m.fault() != 0; i++) {
-            step("format", 0);
+            step(0);
         }
-        for (int call = 0; call < 300; call++) {
-            step(run + " call " + call, pick());
-            if (call % 25 == 24) {
-                compareDisks(call);
+        while (x.changes() < CHANGES) {
+            step(pick());
+            compareChanged();
+        }
+        for (int i = 0; i < m.disk.length; i++) {
+            if (wholeDisk || random.nextInt(100) == 0) {
+                compareByte(x, i, m.byteAt(i / 512, i % 512));
             }
         }
-        compareDisks(300);
+        compareFree(wholeDisk);
     }
 
     private int pick() {
@@ -52,12 +60,30 @@ public final class AgainstModelTest {
                 : roll < 62 ? 6 : roll < 72 ? 7 : roll < 77 ? 8 : roll < 89 ? 9 : roll < 92 ? 10 : roll < 96 ? 11 : 12;
     }
 
-    private void compareDisks(int call) {
-        for (int i = 0; i < m.sectors * 512; i++) {
-            if (x.byteAt(i / 512, i % 512) != m.byteAt(i / 512, i % 512)) {
-                Kit.due(run + " after call " + call + " byte " + i % 512 + " of sector " + i / 512,
-                        x.byteAt(i / 512, i % 512), m.byteAt(i / 512, i % 512));
-                return;
+    private void compareByte(Run seen, int at, int want) {
+        Kit.due(run + " after " + x.changes() + " calls, byte " + at % 512 + " of sector " + at / 512,
+                seen.byteAt(at / 512, at % 512), want);
+    }
+
+    /** What the last step changed, or some of it. */
+    private void compareChanged() {
+        int left = 60;
+        for (int i = 0; i < m.disk.length && left > 0; i++) {
+            if (m.disk[i] != compared[i]) {
+                compareByte(x, i, m.byteAt(i / 512, i % 512));
+                left--;
+            }
+        }
+        compared = m.disk.clone();
+    }
+
+    /** Without a sector 0 that is as told, byteAt shows free clusters as well. */
+    private void compareFree(boolean wholeDisk) {
+        Run open = x.fork();
+        open.poke(0, 510, 0);
+        for (int i = 512; i < m.disk.length; i++) {
+            if (wholeDisk || random.nextInt(100) == 0) {
+                compareByte(open, i, m.disk[i] & 255);
             }
         }
     }
@@ -108,7 +134,7 @@ public final class AgainstModelTest {
         if (roll == 3) {
             return "n" + random.nextInt(1000) + " of many.txt";
         }
-        int length = random.nextInt(8) == 0 ? 250 + random.nextInt(10) : 1 + random.nextInt(60);
+        int length = random.nextInt(15) == 0 ? 250 + random.nextInt(10) : 1 + random.nextInt(roll == 4 ? 12 : 60);
         StringBuilder name = new StringBuilder();
         for (int i = 0; i < length; i++) {
             name.append("abcdeABCDE ._+\u00e4".charAt(random.nextInt(15)));
@@ -116,7 +142,7 @@ public final class AgainstModelTest {
         return name.toString();
     }
 
-    private void step(String what, int kind) {
+    private void step(int kind) {
         int k = kind > 1 && kind < 9 ? item() : 0;
         int a = random.nextInt();
         switch (kind) {
@@ -133,7 +159,7 @@ public final class AgainstModelTest {
                 break;
             }
             case 2: {
-                byte[] bytes = new byte[random.nextInt(4) == 0 ? 0 : random.nextInt(1200)];
+                byte[] bytes = new byte[random.nextInt(4) == 0 ? 0 : random.nextInt(random.nextInt(10) == 0 ? 1200 : 200)];
                 random.nextBytes(bytes);
                 tape(bytes);
                 both("write " + k, () -> x.write(k), () -> m.write(k));
