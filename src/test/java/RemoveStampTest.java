@@ -235,11 +235,11 @@ public final class RemoveStampTest {
     private static void hundredths() {
         Run x = two();
         x.stamp(0, 0, day(2107, 12, 31), time(23, 59, 29));
-        for (int time : new int[] {0, 1, 99, 100, 198, 199}) {
+        for (int time = 0; time <= 199; time++) {
             x.stamp(0, 3, 0, time);
             entry(x, 0, time, time(23, 59, 29), day(2107, 12, 31), 0, 33 << 16);
-            Kit.sound(x);
         }
+        Kit.sound(x);
         for (int time : new int[] {-1, 200, 255, 256, 257, 65536, Integer.MIN_VALUE, Integer.MAX_VALUE}) {
             Kit.throwsDue("hundredths " + time, () -> x.stamp(0, 3, 0, time), Kit.ARGUMENT);
         }
@@ -303,9 +303,11 @@ public final class RemoveStampTest {
         Run x = two();
         Kit.throwsDue("MADE without a day has no time", () -> x.stamp(0, 0, 0, 1), Kit.ARGUMENT);
         Kit.throwsDue("nor hundredths", () -> x.stamp(0, 3, 33, 1), Kit.ARGUMENT);
-        x.stamp(0, 3, 0, 0);
-        x.stamp(0, 0, 0, 0);
-        entry(x, 0, 0, 0, 0, 0, 33 << 16);
+        for (int k = 0; k < 2; k++) {
+            x.stamp(k, 3, 0, 0);
+            x.stamp(k, 0, 0, 0);
+            entry(x, 64 * k, 0, 0, 0, 0, 33 << 16);
+        }
         x.stamp(0, 0, 33, 1);
         x.stamp(0, 3, 0, 1);
         Kit.throwsDue("no day with hundredths", () -> x.stamp(0, 0, 0, 0), Kit.ARGUMENT);
