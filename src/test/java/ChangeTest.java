@@ -414,6 +414,8 @@ public final class ChangeTest {
         shortNameDue("a.\u65e5\u65e5\u65e5\u65e5", "A~1     ___");
         shortNameDue("a.+", "A~1     _  ");
         shortNameDue("ab..cd", "AB~1    CD ");
+        shortNameDue("A.BCD.E", "ABCD~1  E  ");
+        shortNameDue("A.BCD.E F", "ABCD~1  EF ");
         shortNameDue("noextension", "NOEXTE~1   ");
         shortNameDue(".ext", "EXT~1      ");
     }

@@ -13,6 +13,7 @@ public final class FaultTest {
         Kit.says("or to one that a chain before, or itself, has", FaultTest::crossed);
         Kit.says("(or its beginning is no cluster)", FaultTest::beginnings);
         Kit.says("A DIRECTORY is a chain of clusters", FaultTest::longestChain);
+        Kit.says("A DIRECTORY is a chain of clusters full of SLOTS of 32 bytes", FaultTest::manyClusters);
         Kit.says("4 the slot is not as told, or a PART without what belongs to it (a label has no parts), or \".\" or \"..\" is "
                 + "missing or wrong", FaultTest::four);
         Kit.says("5 its name, or short name, is that of an entry before", FaultTest::five);
@@ -152,6 +153,29 @@ public final class FaultTest {
         Kit.faults(all, 64, 8, 4, 3, 2, 3, 24);
     }
 
+    /** The same for a hundred small clusters, with an entry in the very last slot. */
+    private static void manyClusters() {
+        Run x = new Run(256);
+        Kit.due("clusters", x.format(2, 8, 1, 0), 123);
+        Kit.makeFile(x, "F");
+        for (int i = 0; i < 100 * 4; i++) {
+            x.grow(0, 256, 229);
+        }
+        x.poke(0, 44, 3);
+        Kit.poke(x, 8, 8, 4, 0);
+        int last = 9 + 101 * 2 - 1;
+        String entry = "LAST       \40\0\0\0\0\0\0\0\0\0\0\0\0\41\0\0\0\0\0\0\0";
+        for (int i = 0; i < 32; i++) {
+            x.poke(last, 480 + i, entry.charAt(i));
+        }
+        Kit.due("fault", x.fault(), 0);
+        Kit.due("items", x.items(), 1);
+        Kit.due("name", Kit.nameOf(x, 0), "LAST");
+        Kit.due("a byte of it", Kit.faultWith(x, last, 480 + 24, 1, 0), 4);
+        Kit.due("the first empty slots", Kit.makeFile(x, "G"), 0);
+        Kit.due("two", x.items(), 2);
+    }
+
     private static void four() {
         Run x = SlotTest.base();
         // a slot; a part before an empty slot, the end, a label; the points
@@ -255,6 +279,14 @@ public final class FaultTest {
         Kit.faults(x, ROOT, 32, 1, 6, 229, 0);
         Kit.faults(x, ROOT, 64, 1, 6, 229, 0);
         Kit.faults(x, DIR, 64, 1, 6, 229, 0);
+        // cluster 2, if the root is another one
+        Run root = new Run(256);
+        root.format(2, 8, 2, 0);
+        root.poke(0, 44, 124);
+        Kit.link(root, 124, 268435455);
+        Kit.due("cluster 2", root.fault(), 6);
+        Kit.link(root, 2, 0);
+        Kit.due("cluster 2, free", root.fault(), 0);
         // with any other fault, that one is the first
         for (int fault = 1; fault <= 5; fault++) {
             Run y = withFault(fault);
