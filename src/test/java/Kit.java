@@ -18,7 +18,11 @@ final class Kit {
     /** A test of words of the document, which are printed with each answer that is not as due. */
     static void says(String words, Call test) {
         sentence = words;
-        test.run();
+        try {
+            test.run();
+        } catch (RuntimeException e) {
+            tell("threw " + e);
+        }
         sentence = "";
     }
 

@@ -15,6 +15,7 @@ public final class SectorZeroTest {
         Kit.says("at 48 (2) 1; at 50 (2) 6; at 510 (2) 43605", SectorZeroTest::marks);
         Kit.says("SECTOR 0 is as told if", SectorZeroTest::whatIsNotTold);
         Kit.says("there are K = (N - A) / C clusters (down)", SectorZeroTest::clusters);
+        Kit.says("at least 4", SectorZeroTest::fewestClusters);
         Kit.says("128 * Z is at least K + 2", SectorZeroTest::entriesForAll);
         Kit.says("CLUSTERS are 2 .. K + 1; cluster c has the sectors from A + (c - 2) * C on.", SectorZeroTest::places);
         Kit.says("of which the lowest 28 bits count", SectorZeroTest::lowestBits);
@@ -177,6 +178,22 @@ public final class SectorZeroTest {
             Kit.due("clusters", x.format(c[0], c[1], 2, 0), c[2]);
             Kit.due("free", x.free(), c[2] - 1);
         }
+    }
+
+    /** No disk is so small that there are less than 4: these 16 are the fewest, and they will do. */
+    private static void fewestClusters() {
+        Run x = new Run(256);
+        x.format(8, 64, 2, 0);
+        x.poke(0, 36, 32);
+        for (int i = 0; i < 12; i++) {
+            x.poke(96, i, x.byteAt(64, i));
+        }
+        Kit.due("fault", x.fault(), 0);
+        Kit.due("clusters but the root's", x.free(), 15);
+        Kit.makeFile(x, "F");
+        Kit.due("all of them", x.grow(0, 15 * 4096, 0), 15 * 4096);
+        Kit.due("the last sector", x.byteAt(255, 511), (15 * 4096 - 1) * (15 * 4096 - 1) + 239 & 255);
+        Kit.sound(x);
     }
 
     private static void entriesForAll() {
