@@ -6,7 +6,7 @@ public final class WildCallsTest {
         400000, -1, -2, Integer.MIN_VALUE, Integer.MAX_VALUE};
 
     public static void main(String[] args) {
-        for (int seed = 0; seed < 400; seed++) {
+        for (int seed = 0; seed < 1200; seed++) {
             run(new Random(seed), seed);
         }
         Kit.end();
@@ -17,7 +17,8 @@ public final class WildCallsTest {
         if (seed % 4 != 0) {
             x.format(2 << random.nextInt(3), 8 + random.nextInt(57), 1 + random.nextInt(2), any(random));
         }
-        for (int call = 0; call < 500; call++) {
+        // at most three calls each, so that with format there are never more than 512
+        for (int call = 0; call < 170; call++) {
             int kind = random.nextInt(24);
             int thrown = Kit.thrown(() -> call(x, random, kind));
             Kit.holds("run " + seed + " call " + call + " of kind " + kind, mayThrow(kind, thrown));
